@@ -920,11 +920,10 @@ public final class DialPlan {
 
         void putUp(Plan plan) {
             timesLifted++;
-            dialled.clear();
-            ended = NOT_YET;
             goOnWaiting(plan);
         }
 
+        /** Forgets the digits and how they ended, so that it is as new when it is lifted again. */
         void putDown() {
             dialled.clear();
             ended = NOT_YET;

@@ -6,6 +6,7 @@ public final class PlanTest {
         addsWhole();
         addRefusals();
         drops();
+        addsAfterDrop();
         dropRefusals();
         tellsOfPatterns();
         letsDigits();
@@ -84,6 +85,16 @@ public final class PlanTest {
         CHECK.same("lets of the last one", plan.lets(0, 0), 16 + 32 + 64);
         CHECK.same("drop(0)", plan.drop(0), 0);
         CHECK.same("drop(0) of none", plan.drop(0), DialPlan.UNKNOWN);
+    }
+
+    private static void addsAfterDrop() {
+        DialPlan plan = Check.planOf("0=a:0", "1=b:0", "2=c:0", "3=d:0");
+        plan.drop(0);
+        Check.add(plan, "4=e:0");
+        for (int i = 0; i < 4; i++) {
+            CHECK.same("way of " + i + " after drop() and add()", plan.pattern(i, 2), i + 1);
+            CHECK.same("lets of " + i + " after drop() and add()", plan.lets(i, 0), 2 << i);
+        }
     }
 
     private static void dropRefusals() {
@@ -218,6 +229,9 @@ public final class PlanTest {
         clashing("1=a:0", "1=a:00", true);
         clashing("1=a:01", "1=a:001", true);
         clashing("1=a:012", "1=a:021", true);
+        clashing("1=a:012", "1=a:013", true);
+        clashing("1=a:01234", "1=a:01235", true);
+        clashing("1=a:01234", "1=a:01234", false);
         clashing("1=a:0", "2=b:0", false);
         clashing("1X=a:0", "X1=b:0", false);
         clashing("[0-7]=a:0", "N=b:0", true);

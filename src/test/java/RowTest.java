@@ -10,6 +10,7 @@ public final class RowTest {
         rewrites();
         readAgain();
         readSixTimes();
+        eachReadIsAnew();
         CHECK.finish();
     }
 
@@ -129,6 +130,17 @@ public final class RowTest {
         ends(grows, "11", DialPlan.NONE, 3, "");
         ends(grows, "111", DialPlan.NONE, 2, "");
         ends(grows, "1111111", DialPlan.NONE, 1, "");
+    }
+
+    private static void eachReadIsAnew() {
+        DialPlan plan = Check.planOf("9X=*:1", "1=c:0");
+        CHECK.same("row(3) of 91", Check.row(plan, "91", 3), 2);
+        CHECK.same("row(4) of 91", plan.row(4), 2);
+        CHECK.same("row(3) of 5", Check.row(plan, "5", 3), DialPlan.NONE);
+        CHECK.same("row(4) of 5", plan.row(4), 1);
+        CHECK.same("row(3) of 1", Check.row(plan, "1", 3), 2);
+        CHECK.same("row(4) of 1", plan.row(4), 1);
+        CHECK.same("row(5) of 1", plan.row(5), 1);
     }
 
     private static void readSixTimes() {
