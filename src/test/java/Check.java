@@ -1,13 +1,23 @@
+import java.math.BigInteger;
+import java.util.ArrayList;
+import java.util.List;
+
 /** Compares answers with those that are due, and says at the end whether all were. */
 final class Check {
     private int wrong = 0;
     private int asked = 0;
+    private String sentence = "";
+
+    /** The document's sentence that is tested from here on; it is told with each wrong answer. */
+    void about(String words) {
+        sentence = "\"" + words + "\": ";
+    }
 
     void same(String what, long got, long due) {
         asked++;
         if (got != due) {
             wrong++;
-            System.out.println(what + " answered " + got + ", due is " + due);
+            System.out.println(sentence + what + " answered " + got + ", due is " + due);
         }
     }
 
@@ -59,5 +69,47 @@ final class Check {
             answer = plan.press(digits.charAt(i) - '0');
         }
         return answer;
+    }
+
+    /** The line of a plan of these patterns (a blank between them), lifted and the digits pressed. */
+    static DialPlan dialled(String patterns, String digits) {
+        DialPlan plan = planOf(patterns.split(" "));
+        plan.lift();
+        dial(plan, digits);
+        return plan;
+    }
+
+    /** The digest by the document's words, of what the other calls tell; cut to a long only in the end, so that it is seen to wrap. */
+    static long digestOf(DialPlan plan, String page) {
+        List<Integer> numbers = new ArrayList<>();
+        int patterns = plan.count(0);
+        int pairs = plan.count(2);
+        for (int number = 0; number < patterns; number++) {
+            for (int what = 0; what <= 5; what++) {
+                numbers.add(plan.pattern(number, what));
+            }
+            for (int place = 0; place <= 9; place++) {
+                numbers.add(plan.lets(number, place));
+            }
+        }
+        for (int place = 0; place < pairs; place++) {
+            numbers.add(plan.clash(place));
+        }
+        for (int what = 0; what <= 19; what++) {
+            if (what != 8 && what != 9) {
+                numbers.add(plan.line(what));
+            }
+        }
+        for (char letter : page.toCharArray()) {
+            numbers.add((int) letter);
+        }
+        for (int what = 0; what <= 9; what++) {
+            numbers.add(plan.count(what));
+        }
+        BigInteger h = BigInteger.valueOf(1669);
+        for (int number : numbers) {
+            h = h.multiply(BigInteger.valueOf(31)).add(BigInteger.valueOf(number));
+        }
+        return h.longValue();
     }
 }

@@ -57,59 +57,37 @@ public final class TotalsTest {
         CHECK.same("digest() of a new object", new DialPlan().digest(), h);
     }
 
-    /** The digest by the document's words, of what the other calls tell. */
-    private static long digestOf(DialPlan plan, String page) {
-        long h = 1669;
-        for (int i = 0; i < plan.count(0); i++) {
-            for (int what = 0; what <= 5; what++) {
-                h = 31 * h + plan.pattern(i, what);
-            }
-            for (int place = 0; place <= 9; place++) {
-                h = 31 * h + plan.lets(i, place);
-            }
-        }
-        for (int i = 0; i < plan.count(2); i++) {
-            h = 31 * h + plan.clash(i);
-        }
-        for (int what = 0; what <= 19; what++) {
-            if (what <= 7 || what >= 10) {
-                h = 31 * h + plan.line(what);
-            }
-        }
-        for (int i = 0; i < page.length(); i++) {
-            h = 31 * h + page.charAt(i);
-        }
-        for (int what = 0; what <= 9; what++) {
-            h = 31 * h + plan.count(what);
-        }
-        return h;
+    private static DialPlan clashing(String page, String digits) {
+        DialPlan plan = Check.planOf("1X=a:0", "[1-2][3-5]=a:0", "[2-3][4-6]=b:177", "1X=!:2", "1X.=*:10");
+        Check.write(plan, page);
+        plan.lift();
+        Check.dial(plan, digits);
+        return plan;
+    }
+
+    private static void digest(String when, DialPlan plan, String page) {
+        CHECK.same("digest() " + when, plan.digest(), Check.digestOf(plan, page));
     }
 
     private static void digestAsTold() {
-        DialPlan plan = Check.planOf("1X=a:0", "[1-2][3-5]=a:0", "[2-3][4-6]=b:177", "1X=!:2", "1X.=*:10");
-        CHECK.same("clashes", plan.count(2), 2);
-        CHECK.same("digest() of patterns", plan.digest(), digestOf(plan, ""));
+        DialPlan plan = Check.planOf("1X=a:0", "[1-2][3-5]=a:0", "[2-3][4-6]=b:177");
+        CHECK.same("clashes", plan.count(2), 1);
+        digest("of patterns", plan, "");
         String page = "1X ~=";
-        Check.write(plan, page);
-        CHECK.same("digest() with a page", plan.digest(), digestOf(plan, page));
-        plan.lift();
-        CHECK.same("digest() of a lifted line", plan.digest(), digestOf(plan, page));
-        Check.dial(plan, "24");
-        CHECK.same("digest() of digits", plan.digest(), digestOf(plan, page));
-        CHECK.same("digest() again", plan.digest(), plan.digest());
-        plan.hang();
-        plan.lift();
-        Check.dial(plan, "13");
-        CHECK.same("digest() of help", plan.digest(), digestOf(plan, page));
+        digest("of a lifted line", clashing("", ""), "");
+        digest("with a page", clashing(page, ""), page);
+        digest("of digits", clashing(page, "24"), page);
+        digest("of help", clashing(page, "13"), page);
+        DialPlan hung = clashing(page, "24");
+        hung.hang();
+        digest("after hang()", hung, page);
+        CHECK.same("digest() again", hung.digest(), hung.digest());
     }
 
     private static void digestWraps() {
         DialPlan plan = new DialPlan();
-        StringBuilder page = new StringBuilder();
-        for (int i = 0; i < 52; i++) {
-            plan.letter('~');
-            page.append('~');
-        }
-        CHECK.same("digest() of a full page", plan.digest(), digestOf(plan, page.toString()));
+        String page = "~".repeat(52);
+        Check.write(plan, page);
+        digest("of a full page", plan, page);
     }
 }
