@@ -151,19 +151,25 @@ public final class CallEdgesTest {
                 Check.add(plan, number + "=a:0");
             }
             CHECK.same("drop(" + gone + ")", plan.drop(gone), 9);
-            for (int number = 0; number < 9; number++) {
-                int due = 1 << (number < gone ? number : number + 1);
-                CHECK.same("lets(" + number + ", 0) after drop(" + gone + ")", plan.lets(number, 0), due);
-            }
+            allBut(gone, plan);
             CHECK.same("lets(9, 0)", plan.lets(9, 0), DialPlan.UNKNOWN);
             CHECK.same("add()", Check.add(plan, "[0-1]=a:0"), 9);
             CHECK.same("lets(9, 0)", plan.lets(9, 0), 3);
+            allBut(gone, plan);
         }
         DialPlan plan = Check.planOf("1=a:0", "2=a:0");
         CHECK.same("drop(1)", plan.drop(1), 1);
         CHECK.same("drop(0)", plan.drop(0), 0);
         CHECK.same("lift() with none left", plan.lift(), 15);
         CHECK.same("press() with none left", plan.press(1), LOST);
+    }
+
+    /** Nine are left of ten that let their own number each. */
+    private static void allBut(int gone, DialPlan plan) {
+        for (int number = 0; number < 9; number++) {
+            int due = 1 << (number < gone ? number : number + 1);
+            CHECK.same("lets(" + number + ", 0) after drop(" + gone + ")", plan.lets(number, 0), due);
+        }
     }
 
     private static void tells(String text, int... due) {
