@@ -359,11 +359,11 @@ public final class DialPlan {
         }
 
         boolean isLike(Row other) {
-            if (size != other.size()) {
+            if (size != other.size) {
                 return false;
             }
-            for (int i = 0; i < size; i++) {
-                if (at(i) != other.at(i)) {
+            for (int i = 0; i < size && i < signs.length && i < other.signs.length; i++) {
+                if (signs[i] != other.signs[i]) {
                     return false;
                 }
             }

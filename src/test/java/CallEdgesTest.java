@@ -12,6 +12,7 @@ public final class CallEdgesTest {
         faultIfThereIsNone();
         addEmptiesThePage();
         dropMovesThoseBehind();
+        dropLeavesNothingBehind();
         patternTells();
         aheadAsANumber();
         letsBehindThePlaces();
@@ -169,6 +170,24 @@ public final class CallEdgesTest {
         for (int number = 0; number < 9; number++) {
             int due = 1 << (number < gone ? number : number + 1);
             CHECK.same("lets(" + number + ", 0) after drop(" + gone + ")", plan.lets(number, 0), due);
+        }
+    }
+
+    private static void dropLeavesNothingBehind() {
+        CHECK.about("6: A PATTERN is gone (and nothing of it is left in one that comes then)");
+        DialPlan plan = Check.planOf("1=a:01", "XXXXXXXX.=h:81234");
+        plan.drop(1);
+        String[] texts = {"1=a:01", "1=a:012", "1=a:0", "1=a:01"};
+        int[] clashes = {0, 1, 1, 0};
+        for (int i = 0; i < texts.length; i++) {
+            CHECK.same("add() of " + texts[i], Check.add(plan, texts[i]), 1);
+            CHECK.same("pairs that CLASH with " + texts[i], plan.count(2), clashes[i]);
+            CHECK.same("SURE with " + texts[i], plan.line(5), clashes[i] == 0 ? 0 : DialPlan.NONE);
+            CHECK.same("OPEN", plan.pattern(1, 1), 0);
+            CHECK.same("lets(1, 1)", plan.lets(1, 1), 0);
+            CHECK.same("lets(1, 9)", plan.lets(1, 9), 0);
+            CHECK.same("narrower(0, 1)", plan.narrower(0, 1), 2);
+            CHECK.same("drop(1)", plan.drop(1), 1);
         }
     }
 

@@ -1,9 +1,11 @@
+import java.util.ArrayList;
+import java.util.List;
 import java.util.Random;
 
 /** Runs of up to 512 calls by seed, each answer compared with that of the model. */
 public final class RandomRunsTest {
     private static final Check CHECK = new Check();
-    private static final int RUNS = 1500;
+    private static final int RUNS = 2000;
     private static final int CALLS = 512;
     private static final int[] EDGES = {-1, 10, 20, 100, Integer.MIN_VALUE, Integer.MAX_VALUE};
 
@@ -13,6 +15,7 @@ public final class RandomRunsTest {
     private final String run;
     /** Few figures, so that rows often meet patterns. */
     private final int figures;
+    private final List<String> former = new ArrayList<>();
     private int calls = 0;
 
     private RandomRunsTest(int seed) {
@@ -34,6 +37,9 @@ public final class RandomRunsTest {
     }
 
     private void go() {
+        for (int many = random.nextInt(13); many > 0; many--) {
+            writeAndAdd(patternText());
+        }
         while (calls < CALLS - 80) {
             step();
         }
@@ -90,6 +96,33 @@ public final class RandomRunsTest {
         return text.toString();
     }
 
+    /** Digits that lead to a pattern that came before, often all it has, perhaps some more. */
+    private String likelyRow() {
+        if (former.isEmpty() || random.nextInt(4) == 0) {
+            return figuresText(random.nextInt(4) == 0 ? 12 : 4);
+        }
+        String text = former.get(random.nextInt(former.size()));
+        StringBuilder row = new StringBuilder();
+        int at = 0;
+        while (text.charAt(at) != '.' && text.charAt(at) != '=') {
+            boolean isSpan = text.charAt(at) == '[';
+            row.append(isSpan ? text.charAt(at + 1 + 2 * random.nextInt(2)) : likelyDigit(text.charAt(at)));
+            at += isSpan ? 5 : 1;
+        }
+        if (random.nextInt(4) == 0) {
+            row.setLength(random.nextInt(row.length() + 1));
+        }
+        return random.nextInt(3) == 0 ? row + figuresText(4) : row.toString();
+    }
+
+    private char likelyDigit(char place) {
+        switch (place) {
+            case 'N': return (char) ('2' + random.nextInt(8));
+            case 'X': return (char) ('0' + random.nextInt(figures));
+            default: return place;
+        }
+    }
+
     private String place() {
         switch (random.nextInt(5)) {
             case 0: return "X";
@@ -101,7 +134,15 @@ public final class RandomRunsTest {
         }
     }
 
+    /** Now and then a text that came before, so that patterns are often alike in what they do. */
     private String patternText() {
+        if (former.isEmpty() || random.nextInt(3) > 0) {
+            former.add(newPatternText());
+        }
+        return former.get(random.nextInt(former.size()));
+    }
+
+    private String newPatternText() {
         StringBuilder text = new StringBuilder();
         int places = random.nextInt(4) == 0 ? 1 + random.nextInt(8) : 1 + random.nextInt(3);
         for (int i = 0; i < places; i++) {
@@ -127,7 +168,7 @@ public final class RandomRunsTest {
     }
 
     private void askRow() {
-        write(figuresText(random.nextInt(4) == 0 ? 12 : 4));
+        write(likelyRow());
         for (int i = 0; i < 8; i++) {
             int what = i < 6 ? i : some(21);
             same("row(" + what + ")", plan.row(what), model.row(what));
@@ -139,8 +180,8 @@ public final class RandomRunsTest {
             same("hang()", plan.hang(), model.hang());
             same("lift()", plan.lift(), model.lift());
         }
-        for (int many = random.nextInt(6); many >= 0; many--) {
-            int digit = random.nextInt(15) == 0 ? some(11) : random.nextInt(figures);
+        for (char likely : likelyRow().toCharArray()) {
+            int digit = random.nextInt(25) == 0 ? some(11) : likely - '0';
             same("press(" + digit + ")", plan.press(digit), model.press(digit));
             same("line(5)", plan.line(5), model.line(5));
         }
